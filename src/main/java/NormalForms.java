@@ -74,7 +74,7 @@ public final class NormalForms {
     // There is a solution just when widening the matrix by the right side
     // changes neither the rank nor the divisor of the minors of that size.
     public boolean solvable() {
-        int size = rank();
+        int size = rankOfFirst(SIZE);
         if (rankOfFirst(WIDTH) != size) {
             return false;
         }
@@ -129,16 +129,20 @@ public final class NormalForms {
         if (!isPlace(c)) {
             return BAD;
         }
-        int whole = determinant();
+        int whole = minorOfThree(0, 1, 2);
         // With a determinant of 0 a solution is never the only one.
-        if (whole == 0 || !solvable()) {
+        if (whole == 0) {
             return BAD;
         }
-        // Cramer's rule; the division leaves no rest since a solution exists.
-        int first = c == 0 ? RIGHT : 0;
-        int second = c == 1 ? RIGHT : 1;
-        int third = c == 2 ? RIGHT : 2;
-        return minorOfThree(first, second, third) / whole;
+        // Cramer's rule gives the one solution by fractions: all three must be whole.
+        int x = minorOfThree(RIGHT, 1, 2);
+        int y = minorOfThree(0, RIGHT, 2);
+        int z = minorOfThree(0, 1, RIGHT);
+        if (x % whole != 0 || y % whole != 0 || z % whole != 0) {
+            return BAD;
+        }
+        int asked = c == 0 ? x : c == 1 ? y : z;
+        return asked / whole;
     }
 
     private static boolean isPlace(int place) {
@@ -223,9 +227,10 @@ public final class NormalForms {
 
     /** The determinant of the columns c, d, e, in this order. */
     private int minorOfThree(int c, int d, int e) {
-        return cells[c] * minorOfTwo(1, 2, d, e)
-            - cells[d] * minorOfTwo(1, 2, c, e)
-            + cells[e] * minorOfTwo(1, 2, c, d);
+        int first = cells[WIDTH + d] * cells[2 * WIDTH + e] - cells[WIDTH + e] * cells[2 * WIDTH + d];
+        int second = cells[WIDTH + c] * cells[2 * WIDTH + e] - cells[WIDTH + e] * cells[2 * WIDTH + c];
+        int third = cells[WIDTH + c] * cells[2 * WIDTH + d] - cells[WIDTH + d] * cells[2 * WIDTH + c];
+        return cells[c] * first - cells[d] * second + cells[e] * third;
     }
 
     /** The greatest common divisor, never below 0; 0 only for two zeros. */
