@@ -375,8 +375,10 @@ public final class PromisesTest {
         onlyIs("full", Due.system(numbers(2, -3, 1, 2, 0, -1, 1, 4, 5), numbers(2, 3, 1)), BAD, BAD, BAD);
         onlyIs("full", Due.system(numbers(2, -3, 1, 2, 0, -1, 1, 4, 5), numbers(-4, 2, 9)), 1, 2, 0);
         onlyIs("all 0", Due.system(numbers(1, 2, 3, 0, 1, 4, 5, 6, 0), NONE), 0, 0, 0);
-        // Of the unknowns only the last would be a fraction: there is still no solution.
-        onlyIs("a half", Due.system(numbers(1, 0, 0, 0, 1, 0, 0, 0, 2), numbers(3, 4, 5)), BAD, BAD, BAD);
+        // One unknown alone would be a fraction: there is no solution.
+        onlyIs("first a half", Due.system(numbers(2, 0, 0, 0, 1, 0, 0, 0, 1), numbers(5, 3, 4)), BAD, BAD, BAD);
+        onlyIs("second a half", Due.system(numbers(1, 0, 0, 0, 2, 0, 0, 0, 1), numbers(4, 5, 3)), BAD, BAD, BAD);
+        onlyIs("third a half", Due.system(numbers(1, 0, 0, 0, 1, 0, 0, 0, 2), numbers(3, 4, 5)), BAD, BAD, BAD);
         onlyIs("several", Due.system(numbers(1, 0, 0, 0, 1, 0, 0, 0, 0), numbers(3, 4, 0)), BAD, BAD, BAD);
         onlyIs("none", Due.system(numbers(1, 0, 0, 0, 1, 0, 0, 0, 0), numbers(3, 4, 1)), BAD, BAD, BAD);
         onlyIs("everything", new NormalForms(), BAD, BAD, BAD);
