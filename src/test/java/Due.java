@@ -1,14 +1,34 @@
 /** Counts and prints the calls of a test whose answer is not the one that is due. */
 final class Due {
     private static final int PRINTED = 40;
+    // The longest test needs some seconds.
+    private static final long PATIENCE_MILLIS = 120000;
+
     private static int wrong = 0;
     private static int asked = 0;
+    private static volatile String last = "the start";
 
     private Due() {
     }
 
+    /** Begins a test: a call that does not end makes the test fail, not wait for ever. */
+    static void begin() {
+        Thread watch = new Thread(() -> {
+            try {
+                Thread.sleep(PATIENCE_MILLIS);
+            } catch (InterruptedException stopped) {
+                return;
+            }
+            System.out.println("a call after " + last + " did not end");
+            Runtime.getRuntime().halt(1);
+        });
+        watch.setDaemon(true);
+        watch.start();
+    }
+
     static void is(String call, long got, long want) {
         asked++;
+        last = call;
         if (got != want) {
             wrong++;
             if (wrong <= PRINTED) {

@@ -35,6 +35,7 @@ public final class EdgesTest {
     }
 
     public static void main(String[] args) {
+        Due.begin();
         // What it is
         everyCallUpTo512Counts();
         everyKindOfCallMayBeThe512th();
@@ -510,7 +511,8 @@ public final class EdgesTest {
         invariantsAre("rank 1 beside a right side", Due.system(NINES, numbers(1, 2, 4)), 9, 0, 0);
         invariantsAre("rank 2", matrix(0, 0, 0, 0, 2, 0, 0, 0, -9), 1, 18, 0);
         invariantsAre("rank 2, full", matrix(9, 9, -9, 9, -9, 9, 9, 9, -9), 9, 18, 0);
-        invariantsAre("rank 2 beside a right side", Due.system(numbers(1, 0, 0, 0, 1, 0, 0, 0, 0), numbers(0, 0, 1)), 1, 1, 0);
+        NormalForms beside = Due.system(numbers(1, 0, 0, 0, 1, 0, 0, 0, 0), numbers(0, 0, 1));
+        invariantsAre("rank 2 beside a right side", beside, 1, 1, 0);
         invariantsAre("rank 3", matrix(9, 9, -9, 9, -9, 9, -9, 9, 9), 9, 18, 18);
     }
 
@@ -578,8 +580,10 @@ public final class EdgesTest {
             Due.is("row " + r + " fails: solvableBy(11)", forms.solvableBy(11), 1);
         }
         // A rest below 0 counts as the one above: -9 x = 3 by 12 has x = 1, and 9 x = -3 too.
-        Due.is("-9 x = 3: solvableBy(12)", Due.system(numbers(-9, 0, 0, 0, 0, 0, 0, 0, 0), numbers(3, 0, 0)).solvableBy(12), 1);
-        Due.is("9 x = -3: solvableBy(12)", Due.system(numbers(9, 0, 0, 0, 0, 0, 0, 0, 0), numbers(-3, 0, 0)).solvableBy(12), 1);
+        NormalForms below = Due.system(numbers(-9, 0, 0, 0, 0, 0, 0, 0, 0), numbers(3, 0, 0));
+        Due.is("-9 x = 3: solvableBy(12)", below.solvableBy(12), 1);
+        NormalForms above = Due.system(numbers(9, 0, 0, 0, 0, 0, 0, 0, 0), numbers(-3, 0, 0));
+        Due.is("9 x = -3: solvableBy(12)", above.solvableBy(12), 1);
         for (int m = 1; m <= 12; m++) {
             Due.is("0 = 9: solvableBy(" + m + ")", Due.system(ZEROS, numbers(9, -9, 9)).solvableBy(m), 9 % m == 0 ? 1 : 0);
             Due.is("all nines: solvableBy(" + m + ")", Due.system(NINES, numbers(-9, -9, -9)).solvableBy(m), 1);

@@ -27,6 +27,7 @@ public final class FaceTest {
     }
 
     public static void main(String[] args) {
+        Due.begin();
         Set<String> seen = new TreeSet<>();
         Set<String> publicNames = new TreeSet<>();
         for (Field field : NormalForms.class.getDeclaredFields()) {

@@ -10,6 +10,7 @@ public final class PromisesTest {
     }
 
     public static void main(String[] args) {
+        Due.begin();
         newObject();
         set();
         setRefuses();

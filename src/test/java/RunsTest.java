@@ -22,6 +22,7 @@ public final class RunsTest {
     }
 
     public static void main(String[] args) {
+        Due.begin();
         for (int run = 0; run < RUNS; run++) {
             RunsTest test = new RunsTest(run);
             while (test.calls < CALLS - 1) {

@@ -10,6 +10,7 @@ public final class SweepTest {
     }
 
     public static void main(String[] args) {
+        Due.begin();
         someSystems();
         allMatricesOfNines();
         Due.end();
