@@ -54,7 +54,20 @@ public final class FaceTest {
         }
         Due.is("public and final", NormalForms.class.getModifiers(), Modifier.PUBLIC | Modifier.FINAL);
         Due.is("nested classes", NormalForms.class.getDeclaredClasses().length, 0);
+        Due.is("interfaces", NormalForms.class.getInterfaces().length, 0);
+        Due.is("extends Object alone", NormalForms.class.getSuperclass() == Object.class, true);
+        Due.is("BAD is -1000000", isBad(-1000000), true);
         Due.end();
+    }
+
+    /** A case label is taken by the compiler only if it is a constant, as the document has it. */
+    private static boolean isBad(int value) {
+        switch (value) {
+            case NormalForms.BAD:
+                return true;
+            default:
+                return false;
+        }
     }
 
     private static void note(Set<String> seen, int modifiers, String member) {
